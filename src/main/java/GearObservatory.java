@@ -35,8 +35,8 @@ public final class GearObservatory {
     private static final int BAD_STATE = -3;
     private static final int NO_ELEMENT = -4;
 
-    private final Setting now;
-    private final Setting saved;
+    private final State now;
+    private final State saved;
     private final History history;
     private final GearWalks walks;
     private final SignRow input;
@@ -48,13 +48,13 @@ public final class GearObservatory {
 
     public GearObservatory() {
         // A constructor hands out nothing of its own object, so what parts share is made ahead of them.
-        Setting setting = new Setting();
+        State state = new State();
         SignRow text = new SignRow(MAX_INPUT);
-        now = setting;
-        walks = new GearWalks(setting.train);
+        now = state;
+        walks = new GearWalks(state.train);
         input = text;
         reader = new CommandReader(text);
-        saved = new Setting();
+        saved = new State();
         history = new History();
         output = new SignRow(MAX_OUTPUT);
         somethingSaved = false;
@@ -1108,13 +1108,13 @@ public final class GearObservatory {
     }
 
     /** Everything that changes can change. */
-    private static final class Setting {
+    private static final class State {
         final GearTrain train = new GearTrain();
         final Wheels wheels = new Wheels();
         final Sky sky = new Sky();
         final Entries entries = new Entries();
 
-        void copyFrom(Setting other) {
+        void copyFrom(State other) {
             train.copyFrom(other.train);
             wheels.copyFrom(other.wheels);
             sky.copyFrom(other.sky);
@@ -1184,23 +1184,23 @@ public final class GearObservatory {
 
         int count;
         private int open;
-        private final Setting[] ring = new Setting[PLACES];
+        private final State[] ring = new State[PLACES];
 
         History() {
             for (int place = 0; place < PLACES; place++) {
-                ring[place] = new Setting();
+                ring[place] = new State();
             }
         }
 
-        void begin(Setting now) {
-            Setting place = ring[open];
+        void begin(State now) {
+            State place = ring[open];
             if (place != null) {
                 place.copyFrom(now);
             }
         }
 
-        void takeBack(Setting now) {
-            Setting place = ring[open];
+        void takeBack(State now) {
+            State place = ring[open];
             if (place != null) {
                 now.copyFrom(place);
             }
@@ -1211,7 +1211,7 @@ public final class GearObservatory {
             count = Math.min(count + 1, MAX_CHANGES);
         }
 
-        void undoLatest(Setting now) {
+        void undoLatest(State now) {
             open = (open + PLACES - 1) % PLACES;
             count--;
             takeBack(now);

@@ -8,6 +8,7 @@ public final class CatalogueTest {
         promise41Forget();
         promises43And44Entries();
         promises43And44AfterForget();
+        promises43And44OfDifferentSizes();
         promise45MeanTeeth();
         promise46AlignedFraction();
         promises47And48Output();
@@ -129,6 +130,23 @@ public final class CatalogueTest {
         CHECK.same("entryPosition('b', 2, 1)", x.entryPosition('b', 2, 1), 0);
     }
 
+    private static void promises43And44OfDifferentSizes() {
+        GearObservatory x = GearsTest.withGears(20);
+        x.catalogue('a', 0);
+        x.addGear(30);
+        x.turn(1, 4);
+        x.catalogue('b', 0);
+        x.addGear(40);
+        x.catalogue('c', 0);
+        x.forget('a', 0);
+        CHECK.same("entryPosition('b', 0, 1)", x.entryPosition('b', 0, 1), 4);
+        CHECK.noElement("entryPosition('b', 0, 2)", () -> x.entryPosition('b', 0, 2));
+        CHECK.same("entryPosition('c', 0, 2)", x.entryPosition('c', 0, 2), 0);
+        x.turn(2, 1);
+        CHECK.same("changedSince('b', 0)", x.changedSince('b', 0), 0);
+        CHECK.same("changedSince('c', 0)", x.changedSince('c', 0), 1);
+    }
+
     private static void promise45MeanTeeth() {
         GearObservatory x = new GearObservatory();
         CHECK.noMean("meanTeeth() of none", () -> (long) x.meanTeeth());
@@ -137,6 +155,9 @@ public final class CatalogueTest {
         x.addGear(30);
         x.addGear(12);
         CHECK.exactly("meanTeeth() of three", x.meanTeeth(), 62.0 / 3.0);
+        x.addGear(60);
+        x.undo();
+        CHECK.exactly("meanTeeth() after undo", x.meanTeeth(), 62.0 / 3.0);
         x.turn(0, 50);
         CHECK.exactly("meanTeeth() of turned gears", x.meanTeeth(), 62.0 / 3.0);
     }
@@ -161,6 +182,9 @@ public final class CatalogueTest {
         CHECK.exactly("alignedFraction(4)", x.alignedFraction(4), 0.0f);
         x.addStar(2700, 0);
         CHECK.exactly("alignedFraction(0) counts a wheel at its star", x.alignedFraction(0), 1.0f / 3.0f);
+        x.addWheel(0, 4);
+        x.undo();
+        CHECK.exactly("alignedFraction(0) after undo", x.alignedFraction(0), 1.0f / 3.0f);
         CHECK.badArgument("alignedFraction(-1)", () -> (long) x.alignedFraction(-1));
         CHECK.badArgument("alignedFraction(1801)", () -> (long) x.alignedFraction(1801));
     }

@@ -14,10 +14,15 @@ public final class CommandsTest {
         promise53KeptLast();
         promise54And55Undo();
         promise54UndoOfEachChange();
+        promise54UndoOfTheFirstChange();
+        promise54UndoRightBehindOtherChanges();
+        promise54FailedCallsKeepTheHistory();
         promise54WhatIsNoChange();
         promise54UndoMakesRoomForNewChanges();
         promises56And57Save();
         promise57RestoreOfEverything();
+        promise57RestoreOverOtherThings();
+        promise57RestoreOfSixEntries();
         CHECK.end();
     }
 
@@ -60,6 +65,7 @@ public final class CommandsTest {
         CHECK.same("passHours(1)", x.passHours(1), 4);
         CHECK.same("all in one", Checks.execute(x, "gear 9;mesh 3-2/5;turn 3+2;wheel 3*4;note b1;hour 99"), 6);
         CHECK.same("position(2) after all in one", x.position(2), 88);
+        CHECK.same("slack(3, 2) after all in one", x.slack(3, 2), 5);
     }
 
     private static void promise51Numbers() {
@@ -217,6 +223,9 @@ public final class CommandsTest {
                 malformed(text.substring(0, length) + ";", length);
             }
             malformed(text.substring(0, length) + "~", length);
+            if (length < text.indexOf(' ') + 1) {
+                malformed(text.substring(0, length) + text.substring(text.indexOf(' ') + 1), length);
+            }
             malformed(text.substring(0, length) + (char) (text.charAt(length) + 256), length);
         }
     }
@@ -321,6 +330,107 @@ public final class CommandsTest {
         CHECK.same("gearCount() after undo of execute", x.gearCount(), 2);
     }
 
+    private static void promise54UndoOfTheFirstChange() {
+        GearObservatory x = new GearObservatory();
+        x.addGear(20);
+        CHECK.same("undo of the first change", x.undo(), 0);
+        CHECK.same("gearCount() after it", x.gearCount(), 0);
+        Checks.execute(x, "gear 9;gear 10");
+        CHECK.same("undo of the first text", x.undo(), 0);
+        CHECK.same("gearCount() after it", x.gearCount(), 0);
+    }
+
+    private static void promise54UndoRightBehindOtherChanges() {
+        GearObservatory x = GearsTest.withGears(20, 30, 40);
+        x.mesh(0, 1, 3);
+        x.addStar(70, 5);
+        x.catalogue('a', 1);
+        String[] changes = {"addGear", "mesh", "part", "turn", "addWheel", "follow", "addStar", "removeStar",
+            "passHours", "catalogue", "forget", "execute"};
+        for (int change = 0; change < changes.length; change++) {
+            for (int before = 0; before < 10; before++) {
+                x.turn(2, 1 + before);
+            }
+            if (change == 5) {
+                x.addWheel(1, 3);
+            }
+            String due = summary(x);
+            change(x, change);
+            CHECK.yes(changes[change] + " changes something", !summary(x).equals(due));
+            CHECK.same("undo of " + changes[change], x.undo(), 7);
+            CHECK.yes("undo of " + changes[change] + " restores " + due, summary(x).equals(due));
+        }
+    }
+
+    private static void change(GearObservatory x, int change) {
+        switch (change) {
+            case 0:
+                x.addGear(50);
+                break;
+            case 1:
+                x.mesh(1, 2, 0);
+                break;
+            case 2:
+                x.part(0, 1);
+                break;
+            case 3:
+                x.turn(0, 7);
+                break;
+            case 4:
+                x.addWheel(0, 4);
+                break;
+            case 5:
+                x.follow(0, 0);
+                break;
+            case 6:
+                x.addStar(1, 1);
+                break;
+            case 7:
+                x.removeStar(0);
+                break;
+            case 8:
+                x.passHours(1);
+                break;
+            case 9:
+                x.catalogue('a', 2);
+                break;
+            case 10:
+                x.forget('a', 1);
+                break;
+            default:
+                Checks.execute(x, "gear 8;gear 9;turn 0+3;hour 3");
+        }
+    }
+
+    /** All that can be asked without an argument, and the gears, as one text. */
+    private static String summary(GearObservatory x) {
+        StringBuilder text = new StringBuilder();
+        for (int gear = 0; gear < x.gearCount(); gear++) {
+            text.append(Checks.outputOf(x, x.writeGear(gear))).append(' ');
+        }
+        text.append(x.meshCount()).append(' ').append(x.turnedTeeth()).append(' ').append(x.wheelCount());
+        for (int place = 0; place < x.starCount(); place++) {
+            text.append(' ').append(x.star(place)).append(':').append(x.direction(x.star(place)));
+        }
+        return text.append(x.isCatalogued('a', 1)).append(x.isCatalogued('a', 2)).toString();
+    }
+
+    private static void promise54FailedCallsKeepTheHistory() {
+        for (int turns = 8; turns < 18; turns++) {
+            GearObservatory x = GearsTest.withGears(60);
+            for (int i = 0; i < turns; i++) {
+                x.turn(0, 1);
+            }
+            CHECK.badArgument("turn(0, 0)", () -> x.turn(0, 0));
+            Checks.feed(x, "turn 0+5;turn 0+0");
+            CHECK.thrown("execute of turn 0+0", UnsupportedOperationException.class, x::execute);
+            for (int i = 7; i >= 0; i--) {
+                CHECK.same("undo after failed calls", x.undo(), i);
+            }
+            CHECK.same("position(0) after eight undone", x.position(0), turns - 8);
+        }
+    }
+
     private static void promise54WhatIsNoChange() {
         GearObservatory x = GearsTest.withGears(20);
         x.addStar(0, 0);
@@ -416,5 +526,47 @@ public final class CommandsTest {
         CHECK.same("entryPosition", x.entryPosition('s', 5, 0), -3);
         CHECK.same("passHours(1)", x.passHours(1), 3);
         CHECK.same("addStar: the next id is restored", x.addStar(0, 0), 2);
+    }
+
+    private static void promise57RestoreOverOtherThings() {
+        GearObservatory x = GearsTest.withGears(21);
+        x.addWheel(0, 3);
+        x.addStar(1, 2);
+        x.save();
+        x.undo();
+        x.undo();
+        x.undo();
+        x.addGear(22);
+        x.addGear(23);
+        x.addWheel(1, 4);
+        x.addStar(1, 3);
+        x.restore();
+        CHECK.same("teeth(0) restored over another gear", x.teeth(0), 21);
+        CHECK.same("gearOf(0) restored over another wheel", x.gearOf(0), 0);
+        CHECK.badArgument("spokes restored over another wheel", () -> x.spokeDirection(0, 3));
+        CHECK.same("speed restored over another star", x.directionAfter(0, 1), 3);
+    }
+
+    private static void promise57RestoreOfSixEntries() {
+        GearObservatory x = GearsTest.withGears(20);
+        x.catalogue('a', 0);
+        x.addGear(30);
+        x.turn(1, 4);
+        for (int i = 1; i < 6; i++) {
+            x.turn(1, i);
+            x.catalogue('a', i);
+        }
+        x.save();
+        x.forget('a', 0);
+        x.forget('a', 1);
+        x.catalogue('b', 0);
+        x.catalogue('b', 1);
+        x.restore();
+        int[] due = {0, 5, 7, 10, 14, 19};
+        for (int i = 1; i < 6; i++) {
+            CHECK.same("entryPosition('a', " + i + ", 1) restored", x.entryPosition('a', i, 1), due[i]);
+        }
+        CHECK.noElement("entryPosition('a', 0, 1) restored", () -> x.entryPosition('a', 0, 1));
+        CHECK.same("forget: six entries were restored", x.forget('a', 5), 5);
     }
 }

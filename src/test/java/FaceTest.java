@@ -144,6 +144,11 @@ public final class FaceTest {
         for (Field field : inside.getDeclaredFields()) {
             CHECK.yes(field + ": static fields are final", isFinalWhereStatic(field));
         }
+        for (Method method : inside.getDeclaredMethods()) {
+            for (String signature : FACE) {
+                CHECK.no(method + " bears a public name", signature.contains(" " + method.getName() + "("));
+            }
+        }
         CHECK.yes(inside + " has some twenty fields at the most", inside.getDeclaredFields().length <= 20);
     }
 

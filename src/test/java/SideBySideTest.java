@@ -47,7 +47,7 @@ public final class SideBySideTest {
     }
 
     private char letter() {
-        return pick(25) == 0 ? (char) pick(300) : (char) ('a' + pick(3));
+        return pick(25) == 0 ? (char) pick(300) : (char) ('a' + pick(4));
     }
 
     private int digit() {
@@ -58,7 +58,7 @@ public final class SideBySideTest {
         try {
             return call.answer();
         } catch (RuntimeException e) {
-            return Long.MIN_VALUE + e.getClass().getName().hashCode();
+            return Long.MIN_VALUE + Math.abs((long) e.getClass().getName().hashCode());
         }
     }
 
@@ -90,6 +90,10 @@ public final class SideBySideTest {
         }
         for (int i = 0; i < 12; i++) {
             makeMesh();
+        }
+        for (int i = 0; i < 8; i++) {
+            changeWheelsAndStars();
+            changeCatalogue();
         }
     }
 
@@ -293,11 +297,9 @@ public final class SideBySideTest {
         } else if (kind == 1) {
             both("restore()", () -> x.restore(), () -> y.restore());
         } else if (kind < 5) {
-            for (int i = pick(9); i >= 0; i--) {
+            for (int i = run % 5 == 0 ? pick(9) : pick(2); i >= 0; i--) {
                 both("undo()", () -> x.undo(), () -> y.undo());
             }
-        } else {
-            both("undo()", () -> x.undo(), () -> y.undo());
         }
         both("undoCount()", () -> x.undoCount(), () -> y.undoCount());
     }

@@ -6,13 +6,16 @@ public final class WheelsTest {
         promise23AddWheel();
         promises24And25Getters();
         promise26SpokeDirection();
-        promise26OfAllPositions();
+        promise26OfAllPositions(59, 11);
+        promise26OfAllPositions(8, 3);
+        promise26OfAllPositions(60, 12);
         promises27And28Nearest();
         promises27And28Ties();
         promise29TeethToFollow();
         promise29Ties();
         promise30Follow();
         promise30FollowByNoTeethIsAChange();
+        promise30FollowByOneTooth();
         promises27To30Exceptions();
         CHECK.end();
     }
@@ -70,14 +73,14 @@ public final class WheelsTest {
         CHECK.noIndex("spokeDirection(-1, 0)", () -> x.spokeDirection(-1, 0));
     }
 
-    private static void promise26OfAllPositions() {
-        GearObservatory x = GearsTest.withGears(59);
-        x.addWheel(0, 11);
+    private static void promise26OfAllPositions(int teeth, int spokes) {
+        GearObservatory x = GearsTest.withGears(teeth);
+        x.addWheel(0, spokes);
         x.turn(0, -99);
         for (int position = -99; position < 99; position++) {
-            int angle = (position + 590) % 59;
-            for (int spoke = 0; spoke < 11; spoke++) {
-                int due = (3600 * angle / 59 + 3600 * spoke / 11) % 3600;
+            int angle = (position + 100 * teeth) % teeth;
+            for (int spoke = 0; spoke < spokes; spoke++) {
+                int due = (3600 * angle / teeth + 3600 * spoke / spokes) % 3600;
                 CHECK.same("spokeDirection(0, " + spoke + ") at " + position, x.spokeDirection(0, spoke), due);
             }
             x.turn(0, 1);
@@ -186,6 +189,14 @@ public final class WheelsTest {
         CHECK.same("follow(0, 0) by no teeth", x.follow(0, 0), 0);
         CHECK.same("turnedTeeth() after it", x.turnedTeeth(), 0);
         CHECK.same("undoCount() after it", x.undoCount(), 4);
+    }
+
+    private static void promise30FollowByOneTooth() {
+        GearObservatory x = GearsTest.withGears(36);
+        x.addWheel(0, 3);
+        x.addStar(1300, 0);
+        CHECK.same("follow(0, 0) by one tooth", x.follow(0, 0), 0);
+        CHECK.same("position(0) after it", x.position(0), 1);
     }
 
     private static void promises27To30Exceptions() {
