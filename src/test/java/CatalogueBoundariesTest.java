@@ -16,6 +16,7 @@ public final class CatalogueBoundariesTest {
         promise41NoEntryUnderThisKey();
         promise41TheLastEntry();
         promise41OneOfSix();
+        promise41OneOfSixSizes();
         promise42NoneAndSix();
         promise43NoEntryUnderThisKey();
         promise43ItDoesNotHoldThisGear();
@@ -36,6 +37,7 @@ public final class CatalogueBoundariesTest {
         promise47NoMesh();
         promise47AscendingOrder();
         promise47PositionsOfEachLength();
+        promise47TheLongestOutput();
         promise47ReplacesThePreviousOne();
         promise48EmptyAtFirst();
         promise48NoSuchCharacter();
@@ -209,6 +211,31 @@ public final class CatalogueBoundariesTest {
                 if (other != entry) {
                     CHECK.same("entryPosition after forget", x.entryPosition(otherLetter, otherDigit, 0), other + 1);
                 }
+            }
+        }
+    }
+
+    /** Each entry holds one gear more than the one before it, and keeps that when another one is removed. */
+    private static void promise41OneOfSixSizes() {
+        for (int entry = 0; entry < 6; entry++) {
+            GearObservatory x = new GearObservatory();
+            for (int gear = 0; gear < 6; gear++) {
+                x.addGear(20 + gear);
+                x.turn(gear, 10 + gear);
+                x.catalogue('s', gear);
+            }
+            x.turn(0, 1);
+            x.turn(5, 1);
+            x.forget('s', entry);
+            for (int other = 0; other < 6; other++) {
+                int digit = other;
+                if (other == entry) {
+                    CHECK.noElement("changedSince of the removed one", () -> x.changedSince('s', digit));
+                    continue;
+                }
+                CHECK.same("changedSince of " + other + " after forget", x.changedSince('s', other), other == 5 ? 2 : 1);
+                CHECK.same("last gear of " + other, x.entryPosition('s', other, other), 10 + other);
+                CHECK.noElement("gear behind the last of " + other, () -> x.entryPosition('s', digit, digit + 1));
             }
         }
     }
@@ -505,6 +532,19 @@ public final class CatalogueBoundariesTest {
             left -= teeth;
         }
         return x;
+    }
+
+    private static void promise47TheLongestOutput() {
+        GearObservatory x = new GearObservatory();
+        GearBoundariesTest.tenGears(x);
+        for (int gear = 0; gear < 9; gear++) {
+            x.mesh(9, gear, 5);
+        }
+        // The turns leave as many of an object's 512 calls as the output has characters, and two.
+        for (int i = 0; i < 445; i++) {
+            x.turn(9, -99);
+        }
+        written(x, 9, "17@-44055-0/5-1/5-2/5-3/5-4/5-5/5-6/5-7/5-8/5");
     }
 
     private static void promise47ReplacesThePreviousOne() {

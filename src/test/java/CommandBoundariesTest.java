@@ -44,6 +44,7 @@ public final class CommandBoundariesTest {
         promise57StaysSaved();
         promise57NoChangeCanBeUndone();
         promise57EachChange();
+        promise57OverOtherThings();
         CHECK.end();
     }
 
@@ -916,5 +917,39 @@ public final class CommandBoundariesTest {
             x.passHours(50);
             x.restore();
         }), Looks.atThings(CommandBoundariesTest::full));
+    }
+
+    /** Other gears, wheels, stars and entries stand where the saved ones stood. */
+    private static void promise57OverOtherThings() {
+        Looks.Maker saved = x -> {
+            x.addGear(20);
+            x.addGear(30);
+            x.addWheel(1, 5);
+            x.addWheel(0, 7);
+            x.addStar(5, 5);
+            x.catalogue('a', 0);
+            x.mesh(1, 0, 4);
+        };
+        same("restore() over other things", Looks.atThings(x -> {
+            saved.make(x);
+            x.save();
+            for (int i = 0; i < 7; i++) {
+                x.undo();
+            }
+            x.addGear(40);
+            x.addGear(50);
+            x.addGear(60);
+            x.turn(1, 8);
+            x.addWheel(2, 6);
+            x.addWheel(1, 4);
+            x.addWheel(0, 3);
+            x.addStar(7, 7);
+            x.addStar(8, 8);
+            x.catalogue('a', 1);
+            x.catalogue('a', 0);
+            x.mesh(0, 2, 1);
+            x.mesh(2, 1, 1);
+            x.restore();
+        }), Looks.atThings(saved));
     }
 }

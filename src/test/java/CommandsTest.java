@@ -341,13 +341,13 @@ public final class CommandsTest {
     }
 
     private static void promise54UndoRightBehindOtherChanges() {
-        GearObservatory x = GearsTest.withGears(20, 30, 40);
-        x.mesh(0, 1, 3);
-        x.addStar(70, 5);
-        x.catalogue('a', 1);
         String[] changes = {"addGear", "mesh", "part", "turn", "addWheel", "follow", "addStar", "removeStar",
             "passHours", "catalogue", "forget", "execute"};
         for (int change = 0; change < changes.length; change++) {
+            GearObservatory x = GearsTest.withGears(20, 30, 40);
+            x.mesh(0, 1, 3);
+            x.addStar(70, 5);
+            x.catalogue('a', 1);
             for (int before = 0; before < 10; before++) {
                 x.turn(2, 1 + before);
             }

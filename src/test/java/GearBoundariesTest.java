@@ -321,16 +321,23 @@ public final class GearBoundariesTest {
 
     private static void promise4FirstAndLastOfNineMeshes() {
         for (int parted = 0; parted < 9; parted++) {
-            GearObservatory x = chain(2);
+            GearObservatory x = new GearObservatory();
+            tenGears(x);
+            for (int gear = 0; gear < 9; gear++) {
+                x.mesh(gear, gear + 1, gear % 6);
+            }
+            // Every second gear turns in the negative direction and opens its mesh as far as the slack goes.
             x.turn(0, 99);
-            int due = parted % 2 == 0 ? 0 : 2;
+            int due = parted % 2 == 0 ? 0 : parted % 6;
             CHECK.same("part of mesh " + parted, x.part(parted + 1, parted), due);
             CHECK.same("meshCount() after part of mesh " + parted, x.meshCount(), 8);
             CHECK.same("trainSize(0) after part of mesh " + parted, x.trainSize(0), parted + 1);
             for (int gear = 0; gear < 9; gear++) {
                 CHECK.same("doMesh after part of mesh " + parted, x.doMesh(gear, gear + 1) ? 1 : 0, gear == parted ? 0 : 1);
                 if (gear != parted) {
-                    CHECK.same("gap after part of mesh " + parted, x.gap(gear, gear + 1), gear % 2 == 0 ? 0 : 2);
+                    int gap = gear % 2 == 0 ? 0 : gear % 6;
+                    CHECK.same("gap after part of mesh " + parted, x.gap(gear, gear + 1), gap);
+                    CHECK.same("slack after part of mesh " + parted, x.slack(gear, gear + 1), gear % 6);
                 }
             }
             CHECK.same("mesh after part of mesh " + parted, x.mesh(parted, parted + 1, 5), 9);

@@ -139,13 +139,15 @@ final class Looks {
 
     private static String shortly(GearObservatory x) {
         StringBuilder text = new StringBuilder();
-        for (int gear = 0; gear < x.gearCount(); gear++) {
-            text.append(x.teeth(gear)).append('@').append(x.position(gear)).append('/').append(x.trainSize(gear));
-            text.append(' ');
+        int gears = x.gearCount();
+        for (int gear = 0; gear < gears; gear++) {
+            text.append(x.position(gear)).append(' ');
         }
         text.append(x.meshCount()).append(' ').append(x.turnedTeeth()).append(' ').append(x.wheelCount());
-        for (int place = 0; place < x.starCount(); place++) {
-            text.append(' ').append(x.star(place)).append('@').append(x.direction(x.star(place)));
+        int stars = x.starCount();
+        for (int place = 0; place < stars; place++) {
+            int star = x.star(place);
+            text.append(' ').append(star).append('@').append(x.direction(star));
         }
         return text.append(x.isCatalogued('a', 0)).append(x.isCatalogued('a', 1)).toString();
     }

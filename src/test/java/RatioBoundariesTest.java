@@ -89,8 +89,8 @@ public final class RatioBoundariesTest {
     }
 
     private static void promises18To20OddAndEvenChains() {
-        GearObservatory x = inMesh(8, 8, 8, 8, 8, 8, 8, 8, 8, 8);
         for (int from = 0; from < 10; from++) {
+            GearObservatory x = inMesh(8, 8, 8, 8, 8, 8, 8, 8, 8, 8);
             for (int to = 0; to < 10; to++) {
                 ratio(x, from, to, (from + to) % 2 == 0 ? 1 : -1, 1);
             }

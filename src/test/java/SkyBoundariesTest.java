@@ -27,7 +27,7 @@ public final class SkyBoundariesTest {
         promise28LeastAndMostDistance();
         promise29AtMostTeethLess1();
         promise29SmallestOfSeveral();
-        promise30ByNoTeeth();
+        promise30ByNoTeethAndByOne();
         promise30ByMostTeeth();
         promise30TurnsTheTrain();
         promise31DirectionFrom0To3599();
@@ -294,6 +294,14 @@ public final class SkyBoundariesTest {
         nearest(turned, 3500, 0, 0);
         nearest(turned, 499, 0, 599);
         nearest(turned, 501, 1, 599);
+        // The last of seven spokes points to 3085 and 5/7, rounded down.
+        GearObservatory seven = wheel(8, 7, 0);
+        nearest(seven, 3085, 6, 0);
+        nearest(seven, 3086, 6, 1);
+        nearest(seven, 3342, 6, 257);
+        nearest(seven, 3343, 0, 257);
+        nearest(seven, 257, 0, 257);
+        nearest(seven, 258, 1, 256);
     }
 
     private static void promise27SmallestNumberOfSeveral() {
@@ -371,7 +379,7 @@ public final class SkyBoundariesTest {
         CHECK.same("teethToFollow 0 is as near as one tooth less", far.teethToFollow(0, 0), 0);
     }
 
-    private static void promise30ByNoTeeth() {
+    private static void promise30ByNoTeethAndByOne() {
         GearObservatory x = wheel(36, 3, 0);
         x.addStar(49, 0);
         int changes = x.undoCount();
@@ -380,6 +388,12 @@ public final class SkyBoundariesTest {
         CHECK.same("turnedTeeth() after it", x.turnedTeeth(), 0);
         CHECK.same("undoCount() after it: a successful call of follow", x.undoCount(), changes + 1);
         CHECK.same("follow again", x.follow(0, 0), 49);
+        GearObservatory one = wheel(36, 3, 0);
+        one.addStar(51, 0);
+        CHECK.same("follow by one tooth", one.follow(0, 0), 49);
+        CHECK.same("position(0) after one tooth", one.position(0), 1);
+        CHECK.same("follow by no tooth more", one.follow(0, 0), 49);
+        CHECK.same("position(0) stays after one tooth", one.position(0), 1);
     }
 
     private static void promise30ByMostTeeth() {

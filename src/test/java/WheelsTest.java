@@ -74,16 +74,17 @@ public final class WheelsTest {
     }
 
     private static void promise26OfAllPositions(int teeth, int spokes) {
-        GearObservatory x = GearsTest.withGears(teeth);
-        x.addWheel(0, spokes);
-        x.turn(0, -99);
-        for (int position = -99; position < 99; position++) {
+        for (int position = -99; position <= 99; position++) {
+            GearObservatory x = GearsTest.withGears(teeth);
+            x.addWheel(0, spokes);
+            if (position != 0) {
+                x.turn(0, position);
+            }
             int angle = (position + 100 * teeth) % teeth;
             for (int spoke = 0; spoke < spokes; spoke++) {
                 int due = (3600 * angle / teeth + 3600 * spoke / spokes) % 3600;
                 CHECK.same("spokeDirection(0, " + spoke + ") at " + position, x.spokeDirection(0, spoke), due);
             }
-            x.turn(0, 1);
         }
     }
 
