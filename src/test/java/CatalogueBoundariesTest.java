@@ -233,7 +233,8 @@ public final class CatalogueBoundariesTest {
                     CHECK.noElement("changedSince of the removed one", () -> x.changedSince('s', digit));
                     continue;
                 }
-                CHECK.same("changedSince of " + other + " after forget", x.changedSince('s', other), other == 5 ? 2 : 1);
+                int changed = other == 5 ? 2 : 1;
+                CHECK.same("changedSince of " + other + " after forget", x.changedSince('s', other), changed);
                 CHECK.same("last gear of " + other, x.entryPosition('s', other, other), 10 + other);
                 CHECK.noElement("gear behind the last of " + other, () -> x.entryPosition('s', digit, digit + 1));
             }
@@ -366,7 +367,8 @@ public final class CatalogueBoundariesTest {
         CHECK.exactly("meanTeeth() of 8 and 9", GearsTest.withGears(8, 9).meanTeeth(), 8.5);
         CHECK.exactly("meanTeeth() of three", GearsTest.withGears(8, 8, 9).meanTeeth(), 25.0 / 3.0);
         CHECK.exactly("meanTeeth() of seven", GearsTest.withGears(8, 8, 8, 8, 8, 8, 60).meanTeeth(), 108.0 / 7.0);
-        CHECK.exactly("meanTeeth() of ten", GearsTest.withGears(60, 60, 60, 60, 60, 60, 60, 60, 60, 59).meanTeeth(), 59.9);
+        GearObservatory ten = GearsTest.withGears(60, 60, 60, 60, 60, 60, 60, 60, 60, 59);
+        CHECK.exactly("meanTeeth() of ten", ten.meanTeeth(), 59.9);
     }
 
     /** Wheels at 0, 1200, 2400 and at 0, 900, 1800, 2700, stars 1 at 600 and 2 at 2405. */

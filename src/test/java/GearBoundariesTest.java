@@ -333,7 +333,8 @@ public final class GearBoundariesTest {
             CHECK.same("meshCount() after part of mesh " + parted, x.meshCount(), 8);
             CHECK.same("trainSize(0) after part of mesh " + parted, x.trainSize(0), parted + 1);
             for (int gear = 0; gear < 9; gear++) {
-                CHECK.same("doMesh after part of mesh " + parted, x.doMesh(gear, gear + 1) ? 1 : 0, gear == parted ? 0 : 1);
+                boolean meshes = x.doMesh(gear, gear + 1);
+                CHECK.same("doMesh after part of mesh " + parted, meshes ? 1 : 0, gear == parted ? 0 : 1);
                 if (gear != parted) {
                     int gap = gear % 2 == 0 ? 0 : gear % 6;
                     CHECK.same("gap after part of mesh " + parted, x.gap(gear, gear + 1), gap);

@@ -336,7 +336,7 @@ public final class SkyBoundariesTest {
             if (teeth % 3 == 0) {
                 CHECK.same("teethToFollow of a third less 1", x.teethToFollow(0, star), teeth / 3 - 1);
             } else {
-                CHECK.same("teethToFollow of a whole revolution less 1", x.teethToFollow(0, star), best(teeth, 3, 1, 0));
+                CHECK.same("teethToFollow of " + teeth, x.teethToFollow(0, star), best(teeth, 3, 1, 0));
             }
         }
         GearObservatory all = wheel(8, 3, 1);
