@@ -41,10 +41,15 @@ final class Checks {
             long got = call.answer();
             say(what + " answered " + got + ", due is a " + due.getSimpleName());
         } catch (RuntimeException e) {
-            if (e.getClass() != due) {
-                say(what + " threw " + e.getClass().getName() + ", due is a " + due.getSimpleName());
+            if (e.getClass() != due || !isOfTheClass(e)) {
+                say(what + " threw " + e + ", due is a " + due.getSimpleName() + " of the class itself");
             }
         }
+    }
+
+    /** The class throws without a text. The machine puts a text, or leaves the trace out where it throws often. */
+    static boolean isOfTheClass(RuntimeException e) {
+        return e.getMessage() == null && e.getStackTrace().length > 0;
     }
 
     void noIndex(String what, Call call) {

@@ -5,6 +5,8 @@ public final class SideBySideTest {
     private static final int CALLS = 512;
     private static final String[] STARTS = {"gear ", "mesh ", "turn ", "wheel ", "note ", "hour "};
 
+    private static final int[] FAR = {Integer.MIN_VALUE, Integer.MAX_VALUE, 65536, -256};
+
     private static final String SIGNS = "0123456789 ;-+*/ghmntwear`{:\u0134";
 
     private GearObservatory x;
@@ -33,17 +35,22 @@ public final class SideBySideTest {
 
     private int gear() {
         int gears = x.gearCount();
-        return pick(25) == 0 || gears == 0 ? from(-1, 10) : pick(gears);
+        return pick(25) == 0 || gears == 0 ? wrong(-1, 10) : pick(gears);
+    }
+
+    /** A number around the edges, or far beyond them. */
+    private int wrong(int least, int most) {
+        return pick(10) == 0 ? FAR[pick(FAR.length)] : from(least, most);
     }
 
     private int wheel() {
         int wheels = x.wheelCount();
-        return pick(20) == 0 || wheels == 0 ? from(-1, 4) : pick(wheels);
+        return pick(20) == 0 || wheels == 0 ? wrong(-1, 4) : pick(wheels);
     }
 
     private int star() {
         int stars = x.starCount();
-        return pick(20) == 0 || stars == 0 ? from(-1, 30) : x.star(pick(stars));
+        return pick(20) == 0 || stars == 0 ? wrong(-1, 30) : x.star(pick(stars));
     }
 
     private char letter() {
@@ -51,13 +58,16 @@ public final class SideBySideTest {
     }
 
     private int digit() {
-        return pick(25) == 0 ? from(-2, 12) : pick(3);
+        return pick(25) == 0 ? wrong(-2, 12) : pick(3);
     }
 
     private static long outcome(Checks.Call call) {
         try {
             return call.answer();
         } catch (RuntimeException e) {
+            if (!Checks.isOfTheClass(e)) {
+                CHECK.say("the machine threw " + e);
+            }
             return Long.MIN_VALUE + Math.abs((long) e.getClass().getName().hashCode());
         }
     }
@@ -100,7 +110,7 @@ public final class SideBySideTest {
     private void makeMesh() {
         int a = gear();
         int b = gear();
-        int slack = pick(20) == 0 ? from(-1, 6) : from(0, 5);
+        int slack = pick(20) == 0 ? wrong(-1, 6) : from(0, 5);
         both("mesh(" + a + ", " + b + ", " + slack + ")", () -> x.mesh(a, b, slack), () -> y.mesh(a, b, slack));
     }
 
@@ -170,7 +180,7 @@ public final class SideBySideTest {
 
     private void turn() {
         int gear = gear();
-        int teeth = pick(4) == 0 ? from(-101, 101) : from(-8, 8);
+        int teeth = pick(4) == 0 ? wrong(-101, 101) : from(-8, 8);
         both("turn(" + gear + ", " + teeth + ")", () -> x.turn(gear, teeth), () -> y.turn(gear, teeth));
     }
 
@@ -185,7 +195,7 @@ public final class SideBySideTest {
         both("trainCountByUnions()", () -> x.trainCountByUnions(), () -> y.trainCount());
         both("turnedTeeth()", () -> x.turnedTeeth(), () -> y.turnedTeeth());
         both("writeGear(" + gear + ")", () -> x.writeGear(gear), () -> y.writeGear(gear));
-        int index = from(-1, 30);
+        int index = wrong(-1, 30);
         both("outputCharacter(" + index + ")", () -> x.outputCharacter(index), () -> y.outputCharacter(index));
     }
 
@@ -214,10 +224,10 @@ public final class SideBySideTest {
         int gear = gear();
         int star = star();
         int wheel = wheel();
-        int direction = pick(15) == 0 ? from(-2, 3601) : pick(40) * 90;
+        int direction = pick(15) == 0 ? wrong(-2, 3601) : pick(40) * 90;
         int speed = from(-51, 51);
         int spokes = from(2, 13);
-        int hours = pick(5) == 0 ? from(-1, 101) : from(1, 9);
+        int hours = pick(5) == 0 ? wrong(-1, 101) : from(1, 9);
         switch (pick(6)) {
             case 0:
                 both("addWheel", () -> x.addWheel(gear, spokes), () -> y.addWheel(gear, spokes));
@@ -240,7 +250,7 @@ public final class SideBySideTest {
     private void askWheels() {
         int wheel = wheel();
         int star = star();
-        int spoke = from(-1, 12);
+        int spoke = wrong(-1, 12);
         String pair = "(" + wheel + ", " + star + ")";
         both("wheelCount()", () -> x.wheelCount(), () -> y.wheelCount());
         both("gearOf(" + wheel + ")", () -> x.gearOf(wheel), () -> y.gearOf(wheel));
@@ -252,9 +262,9 @@ public final class SideBySideTest {
 
     private void askStars() {
         int star = star();
-        int hours = from(-1, 100);
-        int direction = from(-5, 3604);
-        int position = from(-1, 8);
+        int hours = wrong(-1, 100);
+        int direction = wrong(-5, 3604);
+        int position = wrong(-1, 8);
         both("starCount()", () -> x.starCount(), () -> y.starCount());
         both("star(" + position + ")", () -> x.star(position), () -> y.star(position));
         both("direction(" + star + ")", () -> x.direction(star), () -> y.direction(star));
@@ -283,7 +293,7 @@ public final class SideBySideTest {
     }
 
     private void askStatistics() {
-        int tolerance = pick(4) == 0 ? from(-2, 1802) : from(0, 200);
+        int tolerance = pick(4) == 0 ? wrong(-2, 1802) : from(0, 200);
         both("meanTeeth()", () -> Double.doubleToLongBits(x.meanTeeth()), () -> Double.doubleToLongBits(y.meanTeeth()));
         both("alignedFraction(" + tolerance + ")", () -> Float.floatToIntBits(x.alignedFraction(tolerance)),
                 () -> Float.floatToIntBits(y.alignedFraction(tolerance)));
